@@ -128,7 +128,7 @@ public final class GlassSpindle {
         if (fault == 0) {
             setup.copy(draft);
             piece.notes = 0;
-            forget();
+            forgetAll();
         }
         return fault;
     }
@@ -154,7 +154,7 @@ public final class GlassSpindle {
             return NONE;
         }
         piece.add(bowl, from, length, press, finger);
-        forget();
+        forgetPlaying();
         return piece.notes - 1;
     }
 
@@ -163,7 +163,7 @@ public final class GlassSpindle {
             return false;
         }
         piece.notes--;
-        forget();
+        forgetPlaying();
         return true;
     }
 
@@ -172,7 +172,7 @@ public final class GlassSpindle {
             return false;
         }
         piece.finger[note] = finger;
-        forget();
+        voice.known = false;
         return true;
     }
 
@@ -323,7 +323,7 @@ public final class GlassSpindle {
         }
         setup.swap(bowl, spare);
         piece.rename(bowl, spare);
-        forget();
+        forgetPlaying();
         return true;
     }
 
@@ -381,17 +381,21 @@ public final class GlassSpindle {
         }
         setup.copy(markedSetups[mark]);
         piece.copy(markedPieces[mark]);
-        forget();
+        forgetAll();
         return true;
     }
 
-    /** All that was reckoned out hangs on the SPINDLE and the NOTES: it is stale once they change. */
-    private void forget() {
+    /** What was reckoned out of NOTES and PLACES is stale once they change. */
+    private void forgetPlaying() {
         warming.known = false;
         voice.known = false;
         fingering.known = false;
-        grinding.known = false;
         ordering.known = false;
+    }
+
+    private void forgetAll() {
+        forgetPlaying();
+        grinding.known = false;
     }
 
     private static boolean isBeat(int beat) {
@@ -1339,6 +1343,7 @@ public final class GlassSpindle {
         private final int[] kept = new int[SEARCHED];
         /** Lifts that the NOTES from one on can't do without. */
         private final int[] sure = new int[SEARCHED + 1];
+        private final int[] touching = new int[SEARCHED];
         /** NOTES ahead of the first one that no fingers can play. */
         private int playable;
         private int fewest;
@@ -1381,18 +1386,30 @@ public final class GlassSpindle {
         private void countSure() {
             sure[piece.notes] = 0;
             for (int note = piece.notes - 1; note >= 0; note--) {
-                sure[note] = sure[note + 1] + (mayFollow(note) ? 0 : 1);
+                sure[note] = sureFrom(note);
             }
         }
 
-        private boolean mayFollow(int note) {
+        /** Who goes on for as long as a finger stays wet lifts least, were there no other NOTES. */
+        private int sureFrom(int first) {
+            int sum = 0;
+            for (int note = 0; note < piece.notes; note++) {
+                int before = note < first ? NONE : followed(note);
+                int both = before == NONE ? 0 : touching[before] + piece.length[note];
+                boolean goesOn = before != NONE && both <= setup.settings[DRY];
+                touching[note] = goesOn ? both : piece.length[note];
+                sum += note < first || goesOn ? 0 : 1;
+            }
+            return sum;
+        }
+
+        private int followed(int note) {
             for (int other = 0; other < note; other++) {
-                int both = piece.length[other] + piece.length[note];
-                if (piece.follows(other, note) && both <= setup.settings[DRY]) {
-                    return true;
+                if (piece.follows(other, note)) {
+                    return other;
                 }
             }
-            return false;
+            return NONE;
         }
 
         /** Without this the search would try all fingers of the NOTES ahead of a hopeless one. */

@@ -6,6 +6,8 @@ import java.util.Random;
 /** Runs of random calls, each answer held against the one of SlowSpindle. Arguments: first seed, number of runs. */
 public final class RandomRuns {
     private static final String THROWN = "NoSuchElementException";
+    /** Small numbers of these make all runs alike: all is cracked, nothing rings along. */
+    private static final List<String> WIDE = List.of("crack", "along", "treadle");
     private final Random random;
     private final long seed;
     private GlassSpindle fast = new GlassSpindle();
@@ -19,7 +21,7 @@ public final class RandomRuns {
 
     public static void main(String[] args) {
         long first = args.length > 0 ? Long.parseLong(args[0]) : 1;
-        int runs = args.length > 1 ? Integer.parseInt(args[1]) : 400;
+        int runs = args.length > 1 ? Integer.parseInt(args[1]) : 300;
         int wrong = 0;
         for (long seed = first; seed < first + runs; seed++) {
             wrong += new RandomRuns(seed).run() ? 0 : 1;
@@ -63,7 +65,7 @@ public final class RandomRuns {
     private String text(int style) {
         StringBuilder s = new StringBuilder();
         List<String> names = new ArrayList<>();
-        int bowls = style == 0 ? in(1, 4) : in(2, chance(10) ? 13 : 12);
+        int bowls = style == 0 ? in(1, 5) : chance(5) ? 13 : in(2, 12);
         boolean alike = chance(60);
         int base = in(1, chance(20) ? 30 : 3000);
         for (int i = 0; i < bowls; i++) {
@@ -76,24 +78,52 @@ public final class RandomRuns {
                 .append(" wall ").append(in(1, chance(70) ? 4 : 20)).append(chance(40) ? pick(" rimmed", " gilt", " spare") : "").append(";");
         }
         if (names.size() > 1) {
-            for (int i = chance(10) ? 9 : to(8); i > 0; i--) {
+            for (int i = chance(3) ? 9 : to(8); i > 0; i--) {
                 int a = to(names.size() - 1), b = to(names.size() - 1);
-                if (a == b && chance(97)) b = (a + 1) % names.size();
+                if (a == b && chance(99)) b = (a + 1) % names.size();
                 int p = in(1, chance(50) ? 1 : chance(80) ? 3 : 20), q = chance(70) ? p : in(1, 20);
                 s.append("pair ").append(names.get(a)).append(" ").append(p).append(blanks()).append(names.get(b)).append(" ").append(q)
                     .append(" within ").append(chance(60) ? to(15) : chance(50) ? to(200) : to(9999)).append(";");
             }
         }
-        for (int i = chance(5) ? 5 : chance(50) ? 0 : in(1, 3); i > 0; i--) s.append("speak ").append(expression(0)).append(";");
+        for (int i = chance(3) ? 5 : chance(50) ? 0 : in(1, 3); i > 0; i--) s.append("speak ").append(expression(0)).append(";");
         for (int i = 0; i < 11; i++) {
             if (chance(35)) {
                 int high = SlowSpindle.HIGH[i], low = SlowSpindle.LOW[i];
-                s.append("set ").append(SlowSpindle.WHATS.get(i)).append(" ").append(chance(60) ? in(low, Math.min(high, low + 6)) : in(low, high)).append(";").append(chance(20) ? "\n" : "");
+                boolean small = chance(WIDE.contains(SlowSpindle.WHATS.get(i)) ? 20 : 80);
+                s.append("set ").append(SlowSpindle.WHATS.get(i)).append(" ").append(small ? in(low, Math.min(high, low + 6)) : in(low, high)).append(";").append(chance(20) ? "\n" : "");
             }
         }
-        if (chance(30)) spoil(s);
+        if (chance(10)) spoil(s);
+        if (style > 2) s = new StringBuilder(focused(style));
         return s.toString();
     }
+
+    /** Style 3: pairs that some grinding mends; 4: hands that some fingering saves; 5: bowls that speak and ring. */
+    private String focused(int style) {
+        StringBuilder s = new StringBuilder();
+        int bowls = style == 3 ? in(2, 9) : in(2, 8), tone = chance(20) ? 4 : chance(20) ? 9994 : in(50, 900);
+        for (int i = 0; i < bowls; i++)
+            s.append("bowl ").append((char) ('a' + i)).append(" tone ").append(tone + in(-3, 4)).append(" size ").append(in(1, chance(70) ? 4 : 99))
+                .append(" wall ").append(in(1, 20)).append(chance(15) ? pick(" spare", " rimmed", " gilt") : "").append(";");
+        int beat = in(0, 5);
+        for (int i = style == 3 ? in(2, 8) : 1; i > 0; i--) {
+            int a = to(bowls - 1), b = (a + in(1, bowls - 1)) % bowls, p = chance(80) ? 1 : in(1, 20);
+            s.append("pair ").append((char) ('a' + a)).append(" ").append(p).append(" ").append((char) ('a' + b)).append(" ").append(p)
+                .append(" within ").append(p * (chance(70) ? to(beat) : to(9))).append(";");
+        }
+        if (style == 3) return s.append("set grind ").append(in(1, 3)).append(";").toString();
+        s.append("set fingers ").append(in(1, 3)).append(";set dry ").append(in(4, 20)).append(";set dip ").append(in(1, 5)).append(";set reach ").append(in(1, 6)).append(";");
+        if (style == 4) return s.toString();
+        s.append("set soon ").append(to(2)).append(";set crack ").append(in(1, 60)).append(";set along ").append(to(9)).append(";");
+        for (int i = to(2); i > 0; i--) s.append("speak ").append(expression(0)).append(chance(50) ? " or touch<" + to(9) : "").append(";");
+        return s.toString();
+    }
+
+    private int focusedCall(int style) {
+        return style == 3 ? pickOf(20, 21, 22, 22, 22) : style == 4 ? pickOf(13, 14, 15, 16, 17, 18, 19) : style == 5 ? pickOf(5, 7, 8, 9, 9, 10, 11, 12) : to(26);
+    }
+    private int pickOf(int... of) { return of[random.nextInt(of.length)]; }
 
     private void spoil(StringBuilder s) {
         for (int i = in(1, 2); i > 0 && s.length() > 0; i--) {
@@ -132,18 +162,29 @@ public final class RandomRuns {
     }
 
     private boolean run() {
-        int style = to(2);
+        int style = to(5);
         String text = text(style);
         trail.add(text);
         if (!feed(text) || !same("spindle", fast.spindle(), slow.spindle())) return false;
-        int most = style == 0 ? 8 : chance(50) ? 10 : 24;
+        int most = style == 0 || style == 4 ? 8 : chance(50) ? 10 : 24;
         for (int i = 0; i < 150; i++) {
             if (chance(1)) {
                 String t = text(style);
                 trail.add(t);
                 if (!feed(t) || !same("spindle", fast.spindle(), slow.spindle())) return false;
             }
-            if (!(chance(25) ? change(most) : ask())) return false;
+            if (!(chance(25) ? change(most) : ask(chance(80) ? focusedCall(style) : to(26)))) return false;
+        }
+        return faults();
+    }
+
+    /** Texts that mostly are none, one after the other. */
+    private boolean faults() {
+        for (int i = 0; i < 10; i++) {
+            StringBuilder s = new StringBuilder(text(to(5)));
+            spoil(s);
+            trail.add(s.toString());
+            if (!feed(s.toString()) || !same("spindle", fast.spindle(), slow.spindle())) return false;
         }
         return true;
     }
@@ -162,8 +203,9 @@ public final class RandomRuns {
         if (slow.s.notes.size() < most && chance(70)) {
             int last = slow.s.notes.isEmpty() ? to(5) : slow.s.notes.get(slow.s.notes.size() - 1).from;
             if (!slow.s.notes.isEmpty() && chance(40)) last = slow.s.notes.get(slow.s.notes.size() - 1).end();
+            if (chance(15)) last += 5;
             int from = last + (chance(50) ? 0 : to(chance(80) ? 3 : 30)) - (chance(3) ? 1 : 0);
-            int length = chance(80) ? in(1, 6) : number(41), press = chance(90) ? in(1, 9) : number(10), bowl = someBowl(), finger = someFinger();
+            int length = chance(90) ? in(1, 6) : number(41), press = chance(95) ? in(1, chance(50) ? 2 : 9) : number(10), bowl = someBowl(), finger = someFinger();
             return same("note " + bowl + " " + from + " " + length + " " + press + " " + finger,
                 fast.note(bowl, from, length, press, finger), slow.note(bowl, from, length, press, finger));
         }
@@ -176,9 +218,9 @@ public final class RandomRuns {
         }
     }
 
-    private boolean ask() {
+    private boolean ask(int call) {
         int a, b;
-        switch (to(26)) {
+        switch (call) {
             case 0: a = someBowl(); b = number(4); return same("bowl " + a + " " + b, fast.bowl(a, b), slow.bowl(a, b));
             case 1: a = someNote(); b = number(4); return same("noteOf " + a + " " + b, fast.noteOf(a, b), slow.noteOf(a, b));
             case 2: a = someBowl(); b = someBeat(); return same("touched " + a + " " + b, fast.touched(a, b), slow.touched(a, b));
