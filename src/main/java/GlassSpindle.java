@@ -758,7 +758,7 @@ public final class GlassSpindle {
             for (int i = 0; i <= SIGNS && good && seen() != END; i++) {
                 good = line();
             }
-            return fault;
+            return fault == 0 ? 0 : fault + 16 * placeSeen();
         }
 
         private int seen() {
@@ -769,8 +769,9 @@ public final class GlassSpindle {
             return at < tape.tokens ? tape.place[at] : tape.length;
         }
 
+        /** The token that is wrong stays the one seen, so that its place is known in the end. */
         private boolean refuse(int kind) {
-            fault = kind + 16 * placeSeen();
+            fault = kind;
             return false;
         }
 
