@@ -1220,6 +1220,9 @@ public final class GlassSpindle {
 
         int ringingIn(int beat) {
             int speaking = speakingIn(beat);
+            if (speaking == 0) {
+                return 0;
+            }
             int bits = 0;
             for (int bowl = 0; bowl < setup.bowls; bowl++) {
                 boolean free = setup.hasPlace(bowl) && warming.pressOn(bowl, beat) == 0
