@@ -191,8 +191,7 @@ public final class GlassSpindle {
     }
 
     public int touched(int bowl, int beat) {
-        warming.learn();
-        return setup.hasBowl(bowl) && isBeat(beat) ? warming.pressOn(bowl, beat) : NONE;
+        return setup.hasBowl(bowl) && isBeat(beat) ? piece.pressOn(bowl, beat) : NONE;
     }
 
     public int warmth(int bowl, int beat) {
@@ -593,6 +592,16 @@ public final class GlassSpindle {
             return bowl[before] == bowl[note] && endOf(before) == from[note];
         }
 
+        int pressOn(int touchedBowl, int beat) {
+            int sum = 0;
+            for (int note = 0; note < notes; note++) {
+                if (bowl[note] == touchedBowl && lasts(note, beat)) {
+                    sum += press[note];
+                }
+            }
+            return sum;
+        }
+
         int firstIn(int beat) {
             for (int note = 0; note < notes; note++) {
                 if (lasts(note, beat)) {
@@ -605,12 +614,14 @@ public final class GlassSpindle {
 
     /** The TAPE and the TOKENS on it. */
     private static final class Tape {
+        /** Above every place, the end's among them. */
+        private static final int PLACES = 1024;
+
         final char[] signs = new char[SIGNS];
         int length;
-        /** A token is END, BAD, NAME, a sign itself, WORD and a slot, or NUMBER and a value. */
-        final int[] token = new int[SIGNS + 1];
-        final int[] place = new int[SIGNS + 1];
-        int tokens;
+        /** A token is END, BAD, NAME, a sign itself, WORD and a slot, or NUMBER and a value; its place stands behind it. */
+        private final int[] row = new int[SIGNS + 1];
+        private int tokens;
 
         void addBytes(long bytes) {
             for (int shift = 56; shift >= 0; shift -= 8) {
@@ -640,10 +651,17 @@ public final class GlassSpindle {
 
         private void put(int newToken, int at) {
             if (tokens <= SIGNS) {
-                token[tokens] = newToken;
-                place[tokens] = at;
+                row[tokens] = newToken * PLACES + at;
                 tokens++;
             }
+        }
+
+        int tokenAt(int index) {
+            return index >= 0 && index < tokens ? row[index] / PLACES : END;
+        }
+
+        int placeAt(int index) {
+            return index >= 0 && index < tokens ? row[index] % PLACES : length;
         }
 
         private int endOf(int at) {
@@ -762,11 +780,11 @@ public final class GlassSpindle {
         }
 
         private int seen() {
-            return at < tape.tokens ? tape.token[at] : END;
+            return tape.tokenAt(at);
         }
 
         private int placeSeen() {
-            return at < tape.tokens ? tape.place[at] : tape.length;
+            return tape.placeAt(at);
         }
 
         /** The token that is wrong stays the one seen, so that its place is known in the end. */
@@ -1032,7 +1050,8 @@ public final class GlassSpindle {
     private static final class Warming {
         private final Setup setup;
         private final Piece piece;
-        private final int[] presses = new int[BOWLS * BEATS];
+        /** Of one BOWL after the other, by BEATS. */
+        private final int[] presses = new int[BEATS];
         private final int[] heat = new int[BOWLS * BEATS];
         private final int[] crackFrom = new int[BOWLS];
         boolean known;
@@ -1048,20 +1067,10 @@ public final class GlassSpindle {
                 return;
             }
             known = true;
-            Arrays.fill(presses, 0);
-            for (int note = 0; note < piece.notes; note++) {
-                int row = piece.bowl[note] * BEATS;
-                for (int beat = piece.from[note]; beat < piece.endOf(note); beat++) {
-                    presses[row + beat] += piece.press[note];
-                }
-            }
             for (int bowl = 0; bowl < setup.bowls; bowl++) {
+                press(bowl);
                 warm(bowl);
             }
-        }
-
-        int pressOn(int bowl, int beat) {
-            return presses[bowl * BEATS + beat];
         }
 
         int heatOf(int bowl, int beat) {
@@ -1076,18 +1085,28 @@ public final class GlassSpindle {
             return crackFrom[bowl] != NONE && beat >= crackFrom[bowl];
         }
 
+        private void press(int bowl) {
+            Arrays.fill(presses, 0);
+            for (int note = 0; note < piece.notes; note++) {
+                if (piece.bowl[note] == bowl) {
+                    for (int beat = piece.from[note]; beat < piece.endOf(note); beat++) {
+                        presses[beat] += piece.press[note];
+                    }
+                }
+            }
+        }
+
         private void warm(int bowl) {
             int limit = setup.wall[bowl] * setup.settings[CRACK];
             int warm = 0;
             crackFrom[bowl] = NONE;
             for (int beat = 0; beat < BEATS; beat++) {
-                int index = bowl * BEATS + beat;
-                heat[index] = warm;
+                heat[bowl * BEATS + beat] = warm;
                 if (crackFrom[bowl] == NONE && warm > limit) {
                     crackFrom[bowl] = beat;
                 }
-                if (presses[index] > 0) {
-                    int more = setup.settings[WARM] * presses[index];
+                if (presses[beat] > 0) {
+                    int more = setup.settings[WARM] * presses[beat];
                     warm += setup.kind[bowl] == PLAIN ? more : more / 2;
                 } else {
                     warm = Math.max(0, warm - setup.settings[COOL]);
@@ -1225,7 +1244,7 @@ public final class GlassSpindle {
             }
             int bits = 0;
             for (int bowl = 0; bowl < setup.bowls; bowl++) {
-                boolean free = setup.hasPlace(bowl) && warming.pressOn(bowl, beat) == 0
+                boolean free = setup.hasPlace(bowl) && piece.pressOn(bowl, beat) == 0
                     && !warming.isCracked(bowl, beat);
                 if (free && isRoused(bowl, speaking)) {
                     bits |= 1 << bowl;
@@ -1492,7 +1511,8 @@ public final class GlassSpindle {
         private static final int ZERO = 3;
         /** With 8 pairs a BOWL of the fewest neighbours has 3 at most, whatever was taken out. */
         private static final int NEIGHBOURS = 3;
-        private static final int ROW = 343;
+        /** What the ways of all nodes come to at most, 8 pairs tried out: 343 twice, 49, 7 and 1. */
+        private static final int WAYS = 743;
         /** A cost is the glass times this, and behind it the steps as digits, first BOWL first. */
         private static final long DIGITS = 5764801L;
         private static final long NEVER = 1000000000000000L;
@@ -1503,7 +1523,10 @@ public final class GlassSpindle {
         private int nodes;
         private final int[] near = new int[SEARCHED];
         private final int[] scope = new int[SEARCHED];
-        private final long[] table = new long[SEARCHED * ROW];
+        private final long[] table = new long[WAYS];
+        /** Where a node's row begins in the table. */
+        private final int[] start = new int[SEARCHED];
+        private int used;
         private final int[] step = new int[SEARCHED];
         private int gone;
         /** Nodes taken out whose rows still wait for a neighbour to be taken out. */
@@ -1574,6 +1597,7 @@ public final class GlassSpindle {
         private void listNeighbours() {
             gone = 0;
             waiting = 0;
+            used = 0;
             Arrays.fill(near, 0);
             for (int pair = 0; pair < setup.pairs; pair++) {
                 int one = nodeOf[setup.first[pair]];
@@ -1600,14 +1624,16 @@ public final class GlassSpindle {
                 return;
             }
             scope[node] = near[node];
+            start[node] = used;
             int ways = waysOf(scope[node]);
-            for (int way = 0; way < ways; way++) {
+            for (int way = 0; way < ways && used < WAYS; way++) {
                 spread(scope[node], way);
-                table[node * ROW + way] = bestStep(node);
+                table[used] = bestStep(node);
+                used++;
             }
             leave(node);
             if (scope[node] == 0) {
-                least = Math.min(NEVER, least + table[node * ROW]);
+                least = Math.min(NEVER, least + table[start[node]]);
             }
         }
 
@@ -1678,7 +1704,7 @@ public final class GlassSpindle {
             for (int other = 0; other < nodes; other++) {
                 boolean hangs = (waiting >> other & 1) != 0 && (scope[other] >> node & 1) != 0;
                 if (hangs) {
-                    cost += table[other * ROW + wayOf(scope[other])];
+                    cost += table[start[other] + wayOf(scope[other])];
                 }
             }
             return Math.min(cost, NEVER);
@@ -1776,15 +1802,14 @@ public final class GlassSpindle {
 
         /** The first of the BOWLS that are best put behind those that are near. */
         private int nextOf(int near) {
-            int next = 0;
-            int best = Integer.MAX_VALUE;
+            int next = NONE;
             for (int node = 0; node < nodes; node++) {
-                if ((near >> node & 1) == 0 && least[near | 1 << node] < best) {
+                boolean free = (near >> node & 1) == 0;
+                if (free && (next == NONE || least[near | 1 << node] < least[near | 1 << next])) {
                     next = node;
-                    best = least[near | 1 << node];
                 }
             }
-            return next;
+            return Math.max(0, next);
         }
 
         private void follow() {
