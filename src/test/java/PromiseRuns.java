@@ -1,73 +1,6 @@
-import java.util.NoSuchElementException;
-
 /** For each promise: what is usual, the edges that the document names, and wrong inputs; reckoned by hand. */
-public final class PromiseRuns {
-    private static final int NONE = GlassSpindle.NONE;
-    private static final String THROWS = "throws";
-    private static final String BOWL = "bowl a tone 1 size 1 wall 1;";
-    private static int asked = 0;
-    private static int wrong = 0;
-    private static String promise = "";
-
+public final class PromiseRuns extends Asking {
     private PromiseRuns() { }
-
-    private static void due(String call, Object got, Object want) {
-        asked++;
-        if (!got.equals(want)) {
-            wrong++;
-            System.out.println(promise + ": " + call + " answered " + got + ", due is " + want);
-        }
-    }
-
-    private static int feed(GlassSpindle x, String text) {
-        int there = x.count(16);
-        for (int i = 0; i < text.length(); i += 24) {
-            long[] l = new long[3];
-            for (int j = 0; j < 24; j++) {
-                l[j / 8] = l[j / 8] << 8 | (i + j < text.length() ? text.charAt(i + j) : 0);
-            }
-            there = x.feed(l[0], l[1], l[2]);
-        }
-        return there;
-    }
-
-    private static GlassSpindle of(String text) {
-        GlassSpindle x = new GlassSpindle();
-        feed(x, text);
-        due("spindle of " + text, x.spindle(), 0);
-        return x;
-    }
-
-    private static void fault(String text, int kind, int place) {
-        GlassSpindle x = new GlassSpindle();
-        feed(x, text);
-        due("spindle of " + text, x.spindle(), kind + 16 * place);
-        due("count(16) behind it", x.count(16), 0);
-    }
-
-    private static Object why(GlassSpindle x, int note, int beat) {
-        try {
-            return x.why(note, beat);
-        } catch (NoSuchElementException e) {
-            return THROWS;
-        }
-    }
-
-    private static Object groundOf(GlassSpindle x, int bowl) {
-        try {
-            return x.groundOf(bowl);
-        } catch (NoSuchElementException e) {
-            return THROWS;
-        }
-    }
-
-    private static String bowls(int many, String kind) {
-        StringBuilder s = new StringBuilder();
-        for (int i = 0; i < many; i++) {
-            s.append("bowl ").append((char) ('a' + i)).append(" tone ").append(100 + i).append(" size 2 wall 20").append(kind).append(";");
-        }
-        return s.toString();
-    }
 
     public static void main(String[] args) {
         newObject();
@@ -101,14 +34,11 @@ public final class PromiseRuns {
         movedAndOrder();
         marks();
         counts();
-        System.out.println("promises: " + asked + " answers, wrong: " + wrong);
-        if (wrong != 0) {
-            System.exit(1);
-        }
+        end("promises");
     }
 
     private static void newObject() {
-        promise = "1";
+        sentence("1");
         GlassSpindle x = new GlassSpindle();
         int[] counts = {0, 0, 0, 0, 0, 10, 2, 4, 1, 12, 2, 3, 1, 5, 0, 1, 0, NONE};
         for (int i = 0; i < counts.length; i++) {
@@ -128,7 +58,7 @@ public final class PromiseRuns {
     }
 
     private static void feeding() {
-        promise = "2";
+        sentence("2");
         GlassSpindle x = new GlassSpindle();
         due("feed nothing", x.feed(0, 0, 0), 0);
         due("feed others", x.feed(-1L, 0x1f7f80ff090b0d00L, 0), 0);
@@ -147,7 +77,7 @@ public final class PromiseRuns {
     }
 
     private static void spindleLines() {
-        promise = "3";
+        sentence("3");
         GlassSpindle x = of("");
         due("count(0)", x.count(0), 0);
         x = of(" \n bowl\na tone1size 1wall 1 ;bowl b tone 9999 size 99 wall 20rimmed;bowl c tone 0007 size 07 wall 0007 spare;"
@@ -166,11 +96,11 @@ public final class PromiseRuns {
             due(whats[i] + " least", of("set " + whats[i] + " " + least[i] + ";").count(5 + i), least[i]);
             due(whats[i] + " most", of("set " + whats[i] + " " + most[i] + ";").count(5 + i), most[i]);
             String set = "set " + whats[i] + " ";
-            fault(set + (most[i] + 1) + ";", 4, set.length());
+            faultAt(4, set.length(), set + (most[i] + 1) + ";");
             if (least[i] == 1) {
-                fault(set + "0;", 4, set.length());
+                faultAt(4, set.length(), set + "0;");
             }
-            fault(set + "1;" + set + "0;", 3, set.length() + 2 + 4);
+            faultAt(3, set.length() + 2 + 4, set + "1;" + set + "0;");
         }
         x = of("set warm 7;" + BOWL);
         due("note", x.note(0, 0, 1, 1, 0), 0);
@@ -186,111 +116,111 @@ public final class PromiseRuns {
     }
 
     private static void spindleNames() {
-        promise = "3, names";
+        sentence("3, names");
         String[] reserved = {"bowl", "tone", "size", "wall", "rimmed", "gilt", "spare", "pair", "within", "speak", "set", "treadle", "fingers",
             "reach", "soon", "dry", "dip", "warm", "cool", "crack", "along", "grind", "not", "and", "or"};
         for (String word : reserved) {
-            fault("bowl " + word + " tone 1 size 1 wall 1;", 1, 5);
-            fault(BOWL + "pair " + word + " 1 a 1 within 0;", 1, BOWL.length() + 5);
-            fault(BOWL + "pair a 1 " + word + " 1 within 0;", 1, BOWL.length() + 9);
+            faultAt(1, 5, "bowl " + word + " tone 1 size 1 wall 1;");
+            faultAt(1, BOWL.length() + 5, BOWL + "pair " + word + " 1 a 1 within 0;");
+            faultAt(1, BOWL.length() + 9, BOWL + "pair a 1 " + word + " 1 within 0;");
         }
         for (String word : new String[] {"speed", "press", "heat", "touch", "plain", "abcdefgh", "bowls", "o"}) {
             due("NAME " + word, of("bowl " + word + " tone 1 size 1 wall 1;bowl z tone 1 size 1 wall 1;pair z 1 " + word + " 1 within 0;").count(2), 1);
         }
-        fault("bowl abcdefghi tone 1 size 1 wall 1;", 1, 5);
-        fault("bowl 1 tone 1 size 1 wall 1;", 1, 5);
-        fault(BOWL + "bowl aa tone 1 size 1 wall 1;bowl aa tone 1 size 1 wall 1;", 3, 28 + 29 + 5);
-        fault(BOWL + "pair aa 1 a 1 within 0;", 2, 28 + 5);
-        fault(BOWL + "pair a 1 aa 1 within 0;", 2, 28 + 9);
-        fault(BOWL + "pair a 1 a 1 within 0;", 3, 28 + 9);
+        faultAt(1, 5, "bowl abcdefghi tone 1 size 1 wall 1;");
+        faultAt(1, 5, "bowl 1 tone 1 size 1 wall 1;");
+        faultAt(3, 28 + 29 + 5, BOWL + "bowl aa tone 1 size 1 wall 1;bowl aa tone 1 size 1 wall 1;");
+        faultAt(2, 28 + 5, BOWL + "pair aa 1 a 1 within 0;");
+        faultAt(2, 28 + 9, BOWL + "pair a 1 aa 1 within 0;");
+        faultAt(3, 28 + 9, BOWL + "pair a 1 a 1 within 0;");
     }
 
     private static void spindleFaults() {
-        promise = "3, faults";
-        fault("x", 1, 0);
-        fault(" ;", 1, 1);
-        fault("bowl", 1, 4);
-        fault("bowl  \n", 1, 7);
-        fault("bowl a tone", 1, 11);
-        fault("bowl a size 1", 1, 7);
-        fault("bowl a tone x", 1, 12);
-        fault("bowl a tone 10000 size 1 wall 1;", 1, 12);
-        fault("bowl a tone 1 size 0 wall 1;", 4, 19);
-        fault("bowl a tone 1 size 100 wall 1;", 4, 19);
-        fault("bowl a tone 1 size 1 wall 0;", 4, 26);
-        fault("bowl a tone 1 size 1 wall 1 plain;", 1, 28);
-        fault("bowl a tone 1 size 1 wall 1 gilt gilt;", 1, 33);
-        fault("bowl a tone 1 size 1 wall 1", 1, 27);
+        sentence("3, faults");
+        faultAt(1, 0, "x");
+        faultAt(1, 1, " ;");
+        faultAt(1, 4, "bowl");
+        faultAt(1, 7, "bowl  \n");
+        faultAt(1, 11, "bowl a tone");
+        faultAt(1, 7, "bowl a size 1");
+        faultAt(1, 12, "bowl a tone x");
+        faultAt(1, 12, "bowl a tone 10000 size 1 wall 1;");
+        faultAt(4, 19, "bowl a tone 1 size 0 wall 1;");
+        faultAt(4, 19, "bowl a tone 1 size 100 wall 1;");
+        faultAt(4, 26, "bowl a tone 1 size 1 wall 0;");
+        faultAt(1, 28, "bowl a tone 1 size 1 wall 1 plain;");
+        faultAt(1, 33, "bowl a tone 1 size 1 wall 1 gilt gilt;");
+        faultAt(1, 27, "bowl a tone 1 size 1 wall 1");
         String two = BOWL + "bowl b tone 1 size 1 wall 1;";
-        fault(two + "pair a 0 b 1 within 0;", 4, 56 + 7);
-        fault(two + "pair a 21 b 1 within 0;", 4, 56 + 7);
-        fault(two + "pair a 1 b 21 within 0;", 4, 56 + 11);
-        fault(two + "pair a 1 b 1 within;", 1, 56 + 19);
-        fault(two + "pair a 1 b 1 within 1 gilt;", 1, 56 + 22);
-        fault("set speed 1;", 1, 4);
-        fault("set 1;", 1, 4);
-        fault("set dry dry;", 1, 8);
-        fault("speak;", 1, 5);
-        fault("speak 1", 1, 7);
-        fault("speak 1 2;", 1, 8);
-        fault("speak a;", 1, 6);
-        fault("speak dry;", 1, 6);
-        fault("speak 1=1=1;", 1, 9);
-        fault("speak (1<1=1);", 1, 10);
-        fault("speak -1;", 1, 6);
-        fault("speak 1+;", 1, 8);
-        fault("speak 1 and;", 1, 11);
-        fault("speak and 1;", 1, 6);
-        fault("speak (1;", 1, 8);
-        fault("speak 1);", 1, 7);
-        fault("speak ();", 1, 7);
-        fault("speak not;", 1, 9);
-        fault("speak 1 not 1;", 1, 8);
+        faultAt(4, 56 + 7, two + "pair a 0 b 1 within 0;");
+        faultAt(4, 56 + 7, two + "pair a 21 b 1 within 0;");
+        faultAt(4, 56 + 11, two + "pair a 1 b 21 within 0;");
+        faultAt(1, 56 + 19, two + "pair a 1 b 1 within;");
+        faultAt(1, 56 + 22, two + "pair a 1 b 1 within 1 gilt;");
+        faultAt(1, 4, "set speed 1;");
+        faultAt(1, 4, "set 1;");
+        faultAt(1, 8, "set dry dry;");
+        faultAt(1, 5, "speak;");
+        faultAt(1, 7, "speak 1");
+        faultAt(1, 8, "speak 1 2;");
+        faultAt(1, 6, "speak a;");
+        faultAt(1, 6, "speak dry;");
+        faultAt(1, 9, "speak 1=1=1;");
+        faultAt(1, 10, "speak (1<1=1);");
+        faultAt(1, 6, "speak -1;");
+        faultAt(1, 8, "speak 1+;");
+        faultAt(1, 11, "speak 1 and;");
+        faultAt(1, 6, "speak and 1;");
+        faultAt(1, 8, "speak (1;");
+        faultAt(1, 7, "speak 1);");
+        faultAt(1, 7, "speak ();");
+        faultAt(1, 9, "speak not;");
+        faultAt(1, 8, "speak 1 not 1;");
         String twelve = bowls(12, "");
         due("twelve", of(twelve).count(0), 12);
-        fault(twelve + "bowl", 5, twelve.length());
-        fault(twelve + "bowl a tone 1 size 1 wall 1;", 5, twelve.length());
+        faultAt(5, twelve.length(), twelve + "bowl");
+        faultAt(5, twelve.length(), twelve + "bowl a tone 1 size 1 wall 1;");
         StringBuilder pairs = new StringBuilder(two);
         for (int i = 0; i < 8; i++) {
             pairs.append("pair a 1 b 1 within 0;");
         }
         due("eight pairs", of(pairs.toString()).count(2), 8);
-        fault(pairs + "pair x", 5, pairs.length());
+        faultAt(5, pairs.length(), pairs + "pair x");
         due("four speaks", of("speak 1;speak 1;speak 1;speak 1;").count(3), 4);
-        fault("speak 1;speak 1;speak 1;speak 1;speak ?", 5, 32);
+        faultAt(5, 32, "speak 1;speak 1;speak 1;speak 1;speak ?");
     }
 
     private static void spindleDepth() {
-        promise = "3, depth";
+        sentence("3, depth");
         due("four", of("speak ((((1))));speak not not not not 1;speak not(not(1));").count(3), 3);
-        fault("speak (((((1)))));", 5, 11);
-        fault("speak (((((wall)))));", 5, 11);
-        fault("speak (((((not 1)))));", 5, 11);
-        fault("speak ((((((1))))));", 5, 11);
-        fault("speak ((((()))));", 1, 11);
-        fault("speak (((((a)))));", 1, 11);
-        fault("speak (((((12345)))));", 1, 11);
-        fault("speak not not not not not 1;", 5, 26);
-        fault("speak not not not not not not 1;", 5, 26);
+        faultAt(5, 11, "speak (((((1)))));");
+        faultAt(5, 11, "speak (((((wall)))));");
+        faultAt(5, 11, "speak (((((not 1)))));");
+        faultAt(5, 11, "speak ((((((1))))));");
+        faultAt(1, 11, "speak ((((()))));");
+        faultAt(1, 11, "speak (((((a)))));");
+        faultAt(1, 11, "speak (((((12345)))));");
+        faultAt(5, 26, "speak not not not not not 1;");
+        faultAt(5, 26, "speak not not not not not not 1;");
         due("not and ( ) together", of("speak not(not(1+press));speak not((not 1)+(2));").count(3), 2);
-        fault("speak not(not(not 1));", 5, 18);
-        fault("speak not(not(not(1)));", 5, 17);
-        fault("speak not(not((1)));", 5, 15);
+        faultAt(5, 18, "speak not(not(not 1));");
+        faultAt(5, 17, "speak not(not(not(1)));");
+        faultAt(5, 15, "speak not(not((1)));");
     }
 
     private static void spindleTokens() {
-        promise = "3, tokens";
-        fault("bowl A", 1, 5);
-        fault("bowl a tone 1 size 1 wall 1 , ;", 1, 28);
-        fault("set dry 12345;", 1, 8);
+        sentence("3, tokens");
+        faultAt(1, 5, "bowl A");
+        faultAt(1, 28, "bowl a tone 1 size 1 wall 1 , ;");
+        faultAt(1, 8, "set dry 12345;");
         due("leading noughts", of("set dry 0012;").count(9), 12);
-        fault("set dry 00012;", 1, 8);
-        fault("set dry 1 2;", 1, 10);
-        fault("set dry12;abcdefghi", 1, 10);
-        fault("speak 1>0;", 1, 7);
-        fault("speak 1<=2;", 1, 8);
+        faultAt(1, 8, "set dry 00012;");
+        faultAt(1, 10, "set dry 1 2;");
+        faultAt(1, 10, "set dry12;abcdefghi");
+        faultAt(1, 7, "speak 1>0;");
+        faultAt(1, 8, "speak 1<=2;");
         due("a letter behind a number", of("speak 1and 2or 3;").count(3), 1);
-        fault(";".repeat(1000), 1, 0);
+        faultAt(1, 0, ";".repeat(1000));
         String ones = "bowl a tone 1 size 1 wall 1;set soon 0;speak 474=1" + "+1".repeat(473) + ";   ";
         due("signs of the longest", ones.length(), 1000);
         GlassSpindle x = of(ones);
@@ -300,7 +230,7 @@ public final class PromiseRuns {
     }
 
     private static void bowl() {
-        promise = "4";
+        sentence("4");
         GlassSpindle x = of("bowl a tone 12 size 34 wall 5 spare;bowl b tone 6 size 7 wall 8;bowl c tone 9999 size 99 wall 20 rimmed;bowl d tone 1 size 1 wall 1 gilt;");
         int[][] all = {{12, 34, 5, 3, NONE}, {6, 7, 8, 0, 0}, {9999, 99, 20, 1, 1}, {1, 1, 1, 2, 2}};
         for (int b = 0; b < 4; b++) {
@@ -316,7 +246,7 @@ public final class PromiseRuns {
     }
 
     private static void note() {
-        promise = "5";
+        sentence("5");
         GlassSpindle x = of("bowl a tone 1 size 1 wall 1;bowl b tone 1 size 1 wall 1 spare;set fingers 3;");
         due("no such bowl", x.note(2, 0, 1, 1, 0), NONE);
         due("no such bowl", x.note(-1, 0, 1, 1, 0), NONE);
@@ -344,7 +274,7 @@ public final class PromiseRuns {
     }
 
     private static void dropAndFinger() {
-        promise = "6, 7";
+        sentence("6, 7");
         GlassSpindle x = of(BOWL + "set fingers 1;");
         due("drop nothing", x.drop(), false);
         x.note(0, 5, 1, 1, 0);
@@ -369,7 +299,7 @@ public final class PromiseRuns {
     }
 
     private static void noteOf() {
-        promise = "8";
+        sentence("8");
         GlassSpindle x = of(BOWL + "bowl b tone 1 size 1 wall 1;");
         x.note(1, 7, 11, 4, 3);
         int[] all = {1, 7, 11, 4, 3, NONE};
@@ -381,7 +311,7 @@ public final class PromiseRuns {
     }
 
     private static void touched() {
-        promise = "9";
+        sentence("9");
         GlassSpindle x = of(BOWL + "bowl b tone 1 size 1 wall 1;bowl c tone 1 size 1 wall 1 spare;");
         x.note(0, 2, 3, 4, 0);
         x.note(0, 3, 1, 5, 1);
@@ -400,7 +330,7 @@ public final class PromiseRuns {
     }
 
     private static void warmth() {
-        promise = "10";
+        sentence("10");
         GlassSpindle x = of("bowl a tone 1 size 1 wall 1;bowl b tone 1 size 1 wall 1 rimmed;bowl c tone 1 size 1 wall 1 gilt;bowl d tone 1 size 1 wall 1 spare;set warm 3;set cool 2;");
         for (int b = 0; b < 3; b++) {
             x.note(b, 1, 2, 1, NONE);
@@ -427,7 +357,7 @@ public final class PromiseRuns {
     }
 
     private static void cracked() {
-        promise = "11";
+        sentence("11");
         GlassSpindle x = of("bowl a tone 1 size 1 wall 2;bowl b tone 1 size 1 wall 2;bowl c tone 1 size 1 wall 1;set warm 2;set crack 3;set cool 99;");
         x.note(0, 0, 3, 1, 0);
         x.note(1, 0, 4, 1, 1);
@@ -448,7 +378,7 @@ public final class PromiseRuns {
     }
 
     private static void why() {
-        promise = "12";
+        sentence("12");
         GlassSpindle x = of("bowl a tone 1 size 1 wall 1;set soon 2;set dry 4;set crack 4;set warm 1;speak touch<3;");
         x.note(0, 10, 8, 1, 0);
         // Warmth is 5 as beat 15 begins; the finger is dry from beat 14 on; touch is 3 in beat 13.
@@ -475,7 +405,7 @@ public final class PromiseRuns {
     }
 
     private static void laws() {
-        promise = "12, laws";
+        sentence("12, laws");
         due("speed", lawAt("speed=42", 1, 0), 0);
         due("press", lawAt("press=5", 5, 0), 0);
         due("heat", lawAt("heat=6", 1, 3), 0);
@@ -511,7 +441,7 @@ public final class PromiseRuns {
     }
 
     private static void speaksAndSounds() {
-        promise = "13, 14";
+        sentence("13, 14");
         GlassSpindle x = of(bowls(3, "") + "set soon 1;speak touch<3;");
         x.note(0, 0, 5, 1, 0);
         x.note(1, 1, 2, 1, 1);
@@ -536,7 +466,7 @@ public final class PromiseRuns {
     }
 
     private static void along() {
-        promise = "15";
+        sentence("15");
         String all = "bowl a tone 100 size 1 wall 20;bowl s tone 110 size 1 wall 20 spare;bowl b tone 110 size 1 wall 20;bowl c tone 121 size 1 wall 20;bowl d tone 110 size 1 wall 20;";
         GlassSpindle x = of(all + "set along 10;set soon 0;set warm 0;");
         x.note(2, 0, 1, 1, NONE);
@@ -566,7 +496,7 @@ public final class PromiseRuns {
     }
 
     private static void silence() {
-        promise = "16";
+        sentence("16");
         GlassSpindle x = of(bowls(3, "") + "set soon 1;speak touch<2;");
         x.note(0, 3, 4, 1, NONE);
         x.note(1, 4, 2, 1, NONE);
@@ -594,7 +524,7 @@ public final class PromiseRuns {
     }
 
     private static void best() {
-        promise = "17, 18";
+        sentence("17, 18");
         GlassSpindle x = of("bowl a tone 1 size 3 wall 20;bowl b tone 1 size 5 wall 20;set soon 0;set warm 0;set treadle 50;speak 29<speed and speed<61;");
         x.note(0, 0, 3, 1, NONE);
         x.note(1, 0, 2, 1, NONE);
@@ -631,7 +561,7 @@ public final class PromiseRuns {
     }
 
     private static void wrongFingers() {
-        promise = "19";
+        sentence("19");
         GlassSpindle x = of(bowls(12, "") + "set fingers 3;set reach 2;set dry 99;");
         x.note(5, 0, 10, 1, 1);
         due("alone", x.wrong(0), 0);
@@ -661,7 +591,7 @@ public final class PromiseRuns {
     }
 
     private static void dryFingers() {
-        promise = "19, dry";
+        sentence("19, dry");
         GlassSpindle x = of(bowls(3, "") + "set dry 5;set dip 3;set soon 0;");
         x.note(0, 0, 5, 1, 0);
         due("just so long", x.wrong(0), 0);
@@ -690,7 +620,7 @@ public final class PromiseRuns {
     }
 
     private static void judgedAndLifts() {
-        promise = "20, 21";
+        sentence("20, 21");
         GlassSpindle x = of(bowls(3, ""));
         due("judged without notes", x.judged(), NONE);
         due("lifts without notes", x.lifts(), 0);
@@ -715,7 +645,7 @@ public final class PromiseRuns {
     }
 
     private static void fewest() {
-        promise = "22, 23";
+        sentence("22, 23");
         GlassSpindle x = of(bowls(4, "") + "set fingers 2;set dry 4;set dip 9;");
         x.note(0, 0, 3, 1, NONE);
         x.note(0, 3, 1, 1, NONE);
@@ -764,7 +694,7 @@ public final class PromiseRuns {
     }
 
     private static void far() {
-        promise = "24";
+        sentence("24");
         GlassSpindle x = of(bowls(4, "") + "set fingers 1;set dry 3;set dip 5;set reach 1;");
         due("no notes", x.far(), 0);
         x.note(1, 0, 2, 1, NONE);
@@ -794,7 +724,7 @@ public final class PromiseRuns {
     }
 
     private static void pairs() {
-        promise = "25, 26";
+        sentence("25, 26");
         GlassSpindle x = of("bowl a tone 200 size 1 wall 1;bowl b tone 301 size 1 wall 1 spare;bowl c tone 9999 size 1 wall 1;pair a 2 b 3 within 1;pair a 2 b 3 within 2;pair c 1 a 20 within 0;");
         due("beating(0)", x.beating(0), 2);
         due("beating(1)", x.beating(1), 2);
@@ -807,7 +737,7 @@ public final class PromiseRuns {
     }
 
     private static void ground() {
-        promise = "27, 28";
+        sentence("27, 28");
         GlassSpindle x = of("bowl a tone 100 size 2 wall 1;bowl b tone 104 size 2 wall 1;bowl c tone 1 size 1 wall 1;pair a 1 b 1 within 1;");
         due("three steps together", x.ground(), 6);
         due("the least for the first bowl", "" + groundOf(x, 0) + " " + groundOf(x, 1) + " " + groundOf(x, 2), "0 -3 0");
@@ -852,7 +782,7 @@ public final class PromiseRuns {
     }
 
     private static void spareAndExchange() {
-        promise = "29, 30";
+        sentence("29, 30");
         GlassSpindle x = of("bowl a tone 100 size 1 wall 1 gilt;bowl b tone 110 size 1 wall 1 spare;bowl c tone 90 size 1 wall 1 spare;bowl d tone 95 size 1 wall 1;");
         due("of equal ones the first", x.spare(0), 1);
         due("the nearest", x.spare(3), 2);
@@ -879,7 +809,7 @@ public final class PromiseRuns {
     }
 
     private static void movedAndOrder() {
-        promise = "31, 32, 33";
+        sentence("31, 32, 33");
         GlassSpindle x = of("bowl s tone 1 size 1 wall 1 spare;" + bowls(5, ""));
         int[] played = {1, 5, 1, 5, 3, 2};
         for (int i = 0; i < played.length; i++) {
@@ -909,7 +839,7 @@ public final class PromiseRuns {
     }
 
     private static void marks() {
-        promise = "34";
+        sentence("34");
         GlassSpindle x = of(BOWL + "bowl b tone 9 size 1 wall 1 spare;set warm 7;speak 1;pair a 1 b 1 within 0;set soon 0;");
         due("nothing on it", x.mark(3, true), false);
         due("none such", x.mark(4, false) || x.mark(-1, false) || x.mark(4, true) || x.mark(-1, true), false);
@@ -941,7 +871,7 @@ public final class PromiseRuns {
     }
 
     private static void counts() {
-        promise = "35";
+        sentence("35");
         GlassSpindle x = of(BOWL + "bowl b tone 9 size 1 wall 1 spare;pair a 1 b 1 within 0;speak 1;speak 1;speak 1;set treadle 21;set fingers 3;set reach 5;set soon 6;set dry 7;set dip 8;set warm 9;set cool 10;set crack 11;set along 12;set grind 13;");
         x.note(0, 0, 1, 1, 0);
         x.note(0, 0, 1, 1, 0);
