@@ -14,6 +14,7 @@ public final class GlassEdges extends Asking {
         groundOfEqual();
         groundAtMost();
         groundNet();
+        groundAgain();
         groundOf();
         spareNearest();
         spareWhere();
@@ -167,11 +168,41 @@ public final class GlassEdges extends Asking {
         due("8 spares", ground(bowls(8, " spare") + four, 2), "8 0 -1");
     }
 
+    private static String allToAll() {
+        return tones(1, 100, 101, 102, 103) + "pair a 1 b 1 within 0;pair a 1 c 1 within 0;pair a 1 d 1 within 0;pair b 1 c 1 within 0;pair b 1 d 1 within 0;pair c 1 d 1 within 0;";
+    }
+
+    private static String wheel() {
+        return tones(1, 100, 101, 102, 103, 104) + "pair a 1 b 1 within 0;pair b 1 c 1 within 0;pair c 1 d 1 within 0;pair d 1 a 1 within 0;pair e 1 a 1 within 0;pair e 1 b 1 within 0;pair e 1 c 1 within 0;pair e 1 d 1 within 0;";
+    }
+
+    private static String star() {
+        return tones(1, 100, 101, 102, 103, 99, 98, 97, 100) + "pair a 1 b 1 within 0;pair a 1 c 1 within 0;pair a 1 d 1 within 0;pair a 1 e 1 within 0;pair a 1 f 1 within 0;pair a 1 g 1 within 0;pair a 1 h 1 within 0;";
+    }
+
+    /** Each net behind each other one and behind itself, on one object. */
+    private static void groundAgain() {
+        sentence("LEAST: of the SPINDLE as it is, whatever was ground before");
+        String[] texts = {wheel(), star(), allToAll(), tones(1, 100, 107) + "pair a 1 b 1 within 0;", tones(1, 5, 6), bowls(9, "") + "pair a 1 b 1 within 9;pair c 1 d 1 within 9;pair e 1 f 1 within 9;pair g 1 h 1 within 9;pair i 1 a 1 within 9;"};
+        int[] glass = {6, 12, 4, NONE, 0, NONE};
+        Object[] second = {1, -1, 0, THROWS, 0, THROWS};
+        GlassSpindle x = new GlassSpindle();
+        for (int one = 0; one < texts.length; one++) {
+            for (int other = 0; other < texts.length; other++) {
+                for (int which : new int[] {one, other, other}) {
+                    read(x, texts[which]);
+                    due("glass of text " + which, x.ground(), glass[which]);
+                    due("bowl 1 of text " + which, groundOf(x, 1), second[which]);
+                }
+            }
+        }
+    }
+
     private static void groundNet() {
         sentence("LEAST: the least glass by which each pair beats no faster than its within");
-        due("all to all of four", ground(tones(1, 100, 101, 102, 103) + "pair a 1 b 1 within 0;pair a 1 c 1 within 0;pair a 1 d 1 within 0;pair b 1 c 1 within 0;pair b 1 d 1 within 0;pair c 1 d 1 within 0;", 4), "4 1 0 -1 -2");
-        due("a wheel of five", ground(tones(1, 100, 101, 102, 103, 104) + "pair a 1 b 1 within 0;pair b 1 c 1 within 0;pair c 1 d 1 within 0;pair d 1 a 1 within 0;pair e 1 a 1 within 0;pair e 1 b 1 within 0;pair e 1 c 1 within 0;pair e 1 d 1 within 0;", 5), "6 2 1 0 -1 -2");
-        due("a star of eight", ground(tones(1, 100, 101, 102, 103, 99, 98, 97, 100) + "pair a 1 b 1 within 0;pair a 1 c 1 within 0;pair a 1 d 1 within 0;pair a 1 e 1 within 0;pair a 1 f 1 within 0;pair a 1 g 1 within 0;pair a 1 h 1 within 0;", 8), "12 0 -1 -2 -3 1 2 3 0");
+        due("all to all of four", ground(allToAll(), 4), "4 1 0 -1 -2");
+        due("a wheel of five", ground(wheel(), 5), "6 2 1 0 -1 -2");
+        due("a star of eight", ground(star(), 8), "12 0 -1 -2 -3 1 2 3 0");
         due("one pair can't be mended", ground(tones(1, 100, 101, 500) + "pair a 1 b 1 within 0;pair a 1 c 1 within 0;", 2), "-1 throws throws");
         due("a pair told twice: the narrower one counts", ground(tones(1, 100, 104) + "pair a 1 b 1 within 4;pair b 1 a 1 within 1;", 2), "3 0 -3");
     }

@@ -21,6 +21,7 @@ public final class HandEdges extends Asking {
         liftsByNumber();
         fewest();
         fewestOfEqual();
+        fewestOnOneBowl();
         fewestAtMost();
         fingered();
         far();
@@ -435,6 +436,26 @@ public final class HandEdges extends Asking {
         x.note(2, 1, 2, 1, NONE);
         due("room for a lower place", "" + x.fewest() + x.fingered(0) + x.fingered(1), "210");
         due("the fingers told stay", "" + x.noteOf(0, 4) + x.noteOf(1, 4), "-1-1");
+    }
+
+    /** One bowl without a rest, dip 20: a finger goes on until it would be dry, another one goes on from there. */
+    private static void fewestOnOneBowl() {
+        sentence("FEWEST: the fewest LIFTS, where fingers go on until they are DRY");
+        int[][] lengths = {{2, 2, 2, 2}, {3, 3, 3, 3}, {3, 2, 3, 2}, {4, 4, 1, 1, 1, 2}, {1, 1, 1, 1, 1, 1, 1, 1}, {5, 5, 5, 5}, {1, 4, 4, 1, 1, 4}, {5, 5, 5, 5, 1}};
+        String[] due = {"2 0011", "4 0123", "2 0011", "3 011222", "2 00000111", "4 0123", "3 001122", "-1 -1-1-1-1-1"};
+        for (int i = 0; i < lengths.length; i++) {
+            GlassSpindle x = hands("set dry 5;set dip 20;");
+            int from = 0;
+            for (int length : lengths[i]) {
+                x.note(4, from, length, 1, NONE);
+                from += length;
+            }
+            StringBuilder s = new StringBuilder().append(x.fewest()).append(' ');
+            for (int note = 0; note < lengths[i].length; note++) {
+                s.append(x.fingered(note));
+            }
+            due("row " + i, s.toString(), due[i]);
+        }
     }
 
     private static void fewestAtMost() {

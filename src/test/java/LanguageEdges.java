@@ -42,6 +42,7 @@ public final class LanguageEdges extends Asking {
         theEnd();
         lines();
         withoutAFault();
+        lawsOfOldTexts();
         places();
         end("edges of the language");
     }
@@ -573,6 +574,27 @@ public final class LanguageEdges extends Asking {
         due("the mark stays", x.mark(2, true), true);
         due("all is back", "" + x.count(0) + x.count(1) + x.count(2) + x.count(3) + x.count(4) + x.count(8) + x.count(9), "2211109");
         due("the law is back", x.why(0, 5), 4);
+    }
+
+    private static void lawsOfOldTexts() {
+        sentence("Without a FAULT it is the SPINDLE from then on: laws of a text before, or of one with a FAULT, don't count");
+        GlassSpindle x = of("speak 0;speak speed;");
+        for (String law : new String[] {"1", "0", "press", "press=2", "1"}) {
+            due("a text with a fault", read(x, "speak 0=1;speak 1;set dry ?"), 1 + 16 * 26);
+            due("a new law " + law, read(x, BOWL + "set soon 0;set warm 0;speak " + law + ";"), 0);
+            due("laws", x.count(3), 1);
+            x.note(0, 0, 1, 1, NONE);
+            due("by it alone " + law, x.why(0, 0), law.equals("0") || law.equals("press=2") ? 4 : 0);
+        }
+        String longest = "speak 1" + "*1".repeat(480) + ";";
+        for (int i = 0; i < 4; i++) {
+            due("a long law", read(x, BOWL + longest.substring(0, 903) + "*0;"), 0);
+            x.note(0, 1, 2, 1, NONE);
+            due("its end counts", x.why(0, 2), 4);
+            due("a short one behind it", read(x, BOWL + "speak 1;"), 0);
+            x.note(0, 1, 2, 1, NONE);
+            due("counts", x.why(0, 2), 0);
+        }
     }
 
     private static void places() {

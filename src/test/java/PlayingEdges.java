@@ -649,6 +649,13 @@ public final class PlayingEdges extends Asking {
         x.note(0, 0, 9, 1, NONE);
         // Beats 0 and 1 are too soon, 2 is unlawful, from 5 on it is cracked.
         due("what else is so", "" + x.atTreadle(49) + x.atTreadle(50) + x.atTreadle(99), "022");
+        GlassSpindle y = of(BOWL + QUIET + "set treadle 50;speak 9<speed;speak 1;speak speed<20 or 40<speed;speak not(speed=60);");
+        y.note(0, 0, 1, 1, NONE);
+        due("by all laws that name speed", "" + y.atTreadle(9) + y.atTreadle(10) + y.atTreadle(19) + y.atTreadle(20) + y.atTreadle(40) + y.atTreadle(41) + y.atTreadle(59) + y.atTreadle(60) + y.atTreadle(61), "011001101");
+        due("the first of them", y.best(0) + " " + y.best(1), "10 1");
+        y = of(BOWL + QUIET + "set treadle 60;speak 9<speed;speak speed<20 or 40<speed;speak not(speed=60);");
+        y.note(0, 0, 1, 1, NONE);
+        due("whatever is told", "" + y.why(0, 0) + y.atTreadle(9) + y.atTreadle(10) + y.atTreadle(20) + y.atTreadle(41) + y.atTreadle(60) + y.atTreadle(61), "4010101");
         x.finger(0, 0);
         due("dry from 3 on", "" + x.atTreadle(50) + x.atTreadle(99) + x.best(1), "000");
     }
