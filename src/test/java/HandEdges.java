@@ -431,6 +431,10 @@ public final class HandEdges extends Asking {
         x.note(1, 2, 2, 1, NONE);
         x.note(1, 4, 2, 1, NONE);
         due("fewer lifts come first", "" + x.fewest() + x.fingered(0) + x.fingered(1) + x.fingered(2), "2011");
+        x.note(5, 30, 1, 1, NONE);
+        due("with a fourth one", "" + x.fewest() + x.fingered(0) + x.fingered(1) + x.fingered(2) + x.fingered(3), "30110");
+        x.drop();
+        due("without it again", "" + x.fewest() + x.fingered(0) + x.fingered(1) + x.fingered(2), "2011");
         x = hands("set fingers 2;");
         x.note(3, 0, 2, 1, NONE);
         x.note(2, 1, 2, 1, NONE);

@@ -530,6 +530,17 @@ public final class LanguageEdges extends Asking {
         }
         faultAt(1, 4, "bowl");
         faultAt(1, 3, "set");
+        String whole = "bowl ab tone 1234 size 56 wall 12 gilt;bowl aba tone 1 size 1 wall 1;pair ab 12 aba 10 within 1234;speak not(123+speed)<press;set crack 123;";
+        GlassSpindle x = new GlassSpindle();
+        for (int end = 0; end <= whole.length(); end++) {
+            String cut = whole.substring(0, end);
+            due("the whole text", read(x, whole), 0);
+            due("behind it " + cut, read(x, cut), read(new GlassSpindle(), cut));
+        }
+        due("a number too great", read(x, "set dip 201;"), 4 + 16 * 8);
+        due("its first two digits behind it", read(x, "set dip 20"), 1 + 16 * 10);
+        due("a number too long", read(x, "set dip 00201;"), 1 + 16 * 8);
+        due("its first four digits behind it", read(x, "set dip 0020"), 1 + 16 * 12);
     }
 
     private static void lines() {
@@ -586,6 +597,16 @@ public final class LanguageEdges extends Asking {
             x.note(0, 0, 1, 1, NONE);
             due("by it alone " + law, x.why(0, 0), law.equals("0") || law.equals("press=2") ? 4 : 0);
         }
+        for (String law : new String[] {"1", "0", "1+1", "not not not 1", "not not 1", "not 1", "1", "0"}) {
+            due("a law with not", read(x, "speak not(1 and not(0 or 0)) and not not 0;"), 0);
+            due("another one", read(x, BOWL + "set soon 0;speak " + law + ";"), 0);
+            x.note(0, 0, 1, 1, NONE);
+            due("by it alone " + law, x.why(0, 0), law.equals("0") || law.equals("not 1") || law.equals("not not not 1") ? 4 : 0);
+            due("a law with not right behind it", read(x, "speak not 0;"), 0);
+        }
+        due("one sign", read(x, BOWL + "set soon 0;speak 1;"), 0);
+        x.note(0, 0, 1, 1, NONE);
+        due("by it alone", x.why(0, 0), 0);
         String longest = "speak 1" + "*1".repeat(480) + ";";
         for (int i = 0; i < 4; i++) {
             due("a long law", read(x, BOWL + longest.substring(0, 903) + "*0;"), 0);
