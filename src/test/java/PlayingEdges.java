@@ -155,6 +155,17 @@ public final class PlayingEdges extends Asking {
         due("the last one", "" + x.noteOf(23, 1) + x.noteOf(24, 1), "23-1");
         due("hands of 24", "" + x.lifts() + " " + x.judged() + " " + x.moved(), "24 0 0");
         due("all else of 24", x.touched(0, 23) + " " + x.speaks(23) + " " + x.sounds(24) + " " + x.silence(0, 0) + " " + x.along(24), "18 2 8388608 -1 0");
+        GlassSpindle y = playing(QUIET + "set dry 99;set along 1;speak speed<21 or speed=60;");
+        for (int i = 0; i < 24; i++) {
+            y.note(i < 23 ? 0 : 2, i, 1, 9, 0);
+        }
+        due("24 of four bowls", y.along(0) + " " + y.along(23) + " " + y.sounds(23) + " " + y.best(0) + " " + y.best(1) + " " + y.atTreadle(30) + " " + y.atTreadle(11), "2 10 8388608 1 24 24 0");
+        due("hands of them", y.order() + " " + y.ordered(1) + " " + y.moved() + " " + y.lifts() + " " + y.judged() + " " + y.cracked(2) + " " + y.wrong(23), "1 2 2 2 -1 -1 0");
+        y = playing(QUIET + "speak 1;");
+        for (int i = 0; i < 24; i++) {
+            y.note(0, 0, 1, 1, NONE);
+        }
+        due("24 at once, nothing rings", "" + y.along(0) + y.silence(0, 0) + y.best(1) + y.order(), "0-1240");
         due("24 go to another bowl", x.exchange(0, 1) && x.noteOf(23, 0) == 1 && x.noteOf(0, 0) == 1, true);
         due("one is taken back", x.drop(), true);
         due("23 are there", x.count(4), 23);
