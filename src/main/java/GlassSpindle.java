@@ -101,9 +101,9 @@ public final class GlassSpindle {
 
     public GlassSpindle() {
         tape = new Tape();
-        reader = new Reader(tape);
         setup = new Setup();
         draft = new Setup();
+        reader = new Reader(tape, draft);
         piece = new Piece();
         markedSetups = new Setup[MARKS];
         markedPieces = new Piece[MARKS];
@@ -123,7 +123,7 @@ public final class GlassSpindle {
     }
 
     public int spindle() {
-        int fault = reader.read(draft);
+        int fault = reader.read();
         tape.length = 0;
         if (fault == 0) {
             setup.copy(draft);
@@ -755,18 +755,18 @@ public final class GlassSpindle {
         private static final int ALONE = 4;
 
         private final Tape tape;
+        private final Setup out;
         private final int[] names = new int[BOWLS];
-        private Setup out;
         private int at;
         private int told;
         private int fault;
 
-        Reader(Tape tape) {
+        Reader(Tape tape, Setup out) {
             this.tape = tape;
+            this.out = out;
         }
 
-        int read(Setup draft) {
-            out = draft;
+        int read() {
             out.clear();
             at = 0;
             told = 0;
